@@ -26,7 +26,6 @@ public final class LakeSwimmers {
     private static final int MOST_SKILL = 30;
     private static final int PLAN_PARTS = 4;
     private static final int PART_MINUTES = 10;
-    private static final int USES = 2;
     private static final int FLOWS = 0;
     private static final int CATCH = 1;
     private static final int TAPE_LENGTH = 50;

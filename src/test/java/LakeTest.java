@@ -145,6 +145,8 @@ public final class LakeTest {
         x.swimmer(0, 0);
         Due.due("plan(0, 0, 5)", x.plan(0, 0, 5), 0);
         Due.due("plan(0, 0, 1)", x.plan(0, 0, 1), 5);
+        Due.due("plan(0, 0, 0)", x.plan(0, 0, 0), 1);
+        Due.due("plan(0, 0, 1) again", x.plan(0, 0, 1), 0);
         Due.due("plan(0, 3, 5)", x.plan(0, 3, 5), 0);
         Due.due("plan(0, 4, 1)", x.plan(0, 4, 1), Due.BEYOND);
         Due.due("plan(0, -1, 1)", x.plan(0, -1, 1), Due.BEYOND);

@@ -158,6 +158,9 @@ public final class SwimTest {
         Due.due("loose at 9999", x.loose(0, 1), Due.STATE);
         // What stands from here on is beyond the 512 calls that the document promises.
         Due.due("z stays", x.count(10), 7);
+        Due.due("none that wait", x.check(0, 1), 0);
+        x.tell(600);
+        Due.due("no YEAR comes", x.check(0, 1), 1);
         Due.due("BEYOND ahead of STATE", x.year(0, 0), Due.BEYOND);
         Due.due("YEAR", x.count(0), 9999);
         Due.due("MET", x.ofSwimmer(0, 4), 9999);

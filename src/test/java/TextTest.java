@@ -129,6 +129,8 @@ public final class TextTest {
         value("(1|0)&0", 0);
         value("7|0", 1);
         value("7&9", 1);
+        value("1&1", 1);
+        value("0&7", 0);
         value("0|0", 0);
         value("7&0", 0);
         value("1<2+3", 1);

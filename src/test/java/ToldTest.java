@@ -283,6 +283,7 @@ public final class ToldTest {
         Due.feedMore(x, "w", 3);
         Due.due("kept tape", x.text(0), 1);
         Due.due("kept tape, read", x.law(0, 0, 4, 5), 9);
+        Due.due("no TEXT is kept, too", noTextIsKept(), 10);
         Due.due("a sheet isn't kept", x.put(0, 0, 1), Due.NONE);
         Due.due("a swimmer anew", x.swimmer(5, 1), 2);
         int[] ofTwo = {0, 5, 1, 10, 0, 0, 0, 0, 0};
@@ -291,8 +292,21 @@ public final class ToldTest {
         }
         Due.planAll(x, 0, 5);
         Due.due("kept numbers that wait", x.check(0, 1), 2);
+        x.tell(1);
+        x.tell(1);
+        x.restore();
+        Due.planAll(x, 0, 5);
+        Due.due("kept as they were", x.check(0, 1), 2);
         x.restore();
         Due.due("restore once more", x.count(7), 2);
+    }
+
+    private static int noTextIsKept() {
+        LakeSwimmers x = new LakeSwimmers();
+        x.image();
+        Due.read(x, 0, "c");
+        x.restore();
+        return x.law(0, 4, 3, 0);
     }
 
     private static void changeAll(LakeSwimmers x) {
@@ -301,7 +315,7 @@ public final class ToldTest {
         x.set(1, 30);
         x.text(0);
         Due.read(x, 0, "c+l");
-        Due.read(x, 1, "b");
+        Due.read(x, 1, "50");
         x.seed(78);
         x.plan(0, 2, 4);
         x.train(1, 13);

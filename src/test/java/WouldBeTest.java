@@ -10,6 +10,7 @@ public final class WouldBeTest {
         training();
         fair();
         nothingChanges();
+        byTheLakeAsItIs();
         Due.finish("WouldBeTest");
     }
 
@@ -42,6 +43,7 @@ public final class WouldBeTest {
         best(x, 0, 1, new int[] {1, 0, 5, 0}, 690);
         x.train(0, 10);
         x.train(1, 10);
+        bestPlanAtTheEdge();
         x.swimmer(30, 0);
         Due.planAll(x, 1, 0);
         x.become(1, 30);
@@ -52,6 +54,20 @@ public final class WouldBeTest {
         Due.due("one side", x.bestPlan(0, 2, 0), Due.BEYOND);
         Due.due("one twice", x.bestPlan(0, 0, 0), Due.BEYOND);
         Due.due("nobody", x.bestPlan(3, 0, 0), Due.BEYOND);
+    }
+
+    /** They come to 196 yards in the very last minute. */
+    private static void bestPlanAtTheEdge() {
+        LakeSwimmers x = two();
+        x.become(0, 10);
+        x.train(0, 11);
+        x.become(1, 30);
+        x.set(1, 195);
+        Due.due("195 yards", x.bestPlan(0, 1, -1), Due.NONE);
+        x.set(1, 196);
+        Due.due("it is the last minute", x.meet(0, 1, 0), 59);
+        best(x, 0, 1, new int[] {0, 0, 0, 0}, (704 + 900) / 2);
+        best(x, 1, 0, new int[] {0, 0, 0, 0}, (704 + 900) / 2);
     }
 
     private static void best(LakeSwimmers x, int one, int other, int[] lanes, int place) {
@@ -235,6 +251,38 @@ public final class WouldBeTest {
         Due.due("as it is", x.meet(0, 1, 2), 0);
         Due.due("not so", x.fair(0, 1), Due.NONE);
         Due.due("told(2)", x.told(2), 1);
+    }
+
+    /** Each is asked right behind a change of the lake. */
+    private static void byTheLakeAsItIs() {
+        LakeSwimmers x = two();
+        x.meet(0, 1, 0);
+        x.current(0, 9);
+        Due.due("bestPlan", x.bestPlan(0, 1, -1), (982 + 32 + 668 - 14) / 2);
+        x.current(0, 0);
+        x.set(2, 1200);
+        Due.due("hold", x.hold(0, 1, 1), 600);
+        x.current(0, 9);
+        Due.due("training", x.training(0, 1, 798), 10);
+        x.current(0, 0);
+        Due.due("diary", x.diary(0, 1, 21, 600, 0), 6);
+        x.current(0, -9);
+        Due.due("fair", x.fair(0, 1), -396);
+        x.swimmer(0, 0);
+        Due.planAll(x, 2, 1);
+        Due.planAll(x, 0, 1);
+        x.plan(0, 0, 0);
+        x.plan(0, 3, 0);
+        x.plan(2, 3, 0);
+        x.current(1, 9);
+        x.current(0, 9);
+        Due.due("send by a current", x.send(1), 0);
+        x.current(0, -9);
+        Due.due("send by another one", x.send(1), 2);
+        x.current(0, 0);
+        x.current(1, 0);
+        Due.due("send by none", x.send(1), 0);
+        Due.due("leastSight", x.leastSight(0, 1), 0);
     }
 
     private static void nothingChanges() {
