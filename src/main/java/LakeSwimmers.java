@@ -800,11 +800,12 @@ public final class LakeSwimmers {
         }
 
         int laneOf(int part) {
-            return isOutside(part, 0, lanes.length - 1) ? 0 : lanes[part];
+            return part < 0 || part >= lanes.length ? 0 : lanes[part];
         }
 
         int laneIn(int minute) {
-            return laneOf(Math.min(minute / PART_MINUTES, PLAN_PARTS - 1));
+            int part = minute / PART_MINUTES;
+            return laneOf(part < PLAN_PARTS ? part : PLAN_PARTS - 1);
         }
 
         int paceIn(int minute) {
@@ -822,7 +823,8 @@ public final class LakeSwimmers {
         }
 
         private int plainPace(int minute) {
-            return Math.max(5, 20 + skill - minute / 4);
+            int pace = 20 + skill - minute / 4;
+            return pace < 5 ? 5 : pace;
         }
     }
 
@@ -1104,7 +1106,8 @@ public final class LakeSwimmers {
         boolean meets(Swimmer one, Swimmer other, int sight) {
             begin(one, other);
             for (int t = 0; t < MINUTES; t++) {
-                step(one, other, t);
+                oneAt = placeNext(one, oneAt, t);
+                otherAt = placeNext(other, otherAt, t);
                 if (one.laneIn(t) == other.laneIn(t) && gap(one) <= sight) {
                     minute = t;
                     place = (oneAt + otherAt) / 2;
@@ -1120,7 +1123,8 @@ public final class LakeSwimmers {
             int least = FAR_SHORE;
             begin(one, other);
             for (int t = 0; t < MINUTES; t++) {
-                step(one, other, t);
+                oneAt = placeNext(one, oneAt, t);
+                otherAt = placeNext(other, otherAt, t);
                 if (one.laneIn(t) == other.laneIn(t)) {
                     least = Math.min(least, Math.max(0, gap(one)));
                 }
@@ -1131,11 +1135,6 @@ public final class LakeSwimmers {
         private void begin(Swimmer one, Swimmer other) {
             oneAt = one.shore();
             otherAt = other.shore();
-        }
-
-        private void step(Swimmer one, Swimmer other, int inMinute) {
-            oneAt = placeNext(one, oneAt, inMinute);
-            otherAt = placeNext(other, otherAt, inMinute);
         }
 
         /** How far the one of side 1 is beyond the one of side 0; below 0 when it has been passed. */
