@@ -7,7 +7,9 @@ import java.util.Random;
 /** Runs of 512 calls, always the same ones, on new objects: LakeSwimmers answers as the Model does. */
 public final class RunsTest {
     private static final int RUNS = 400;
+    /** An object is used for 512 calls at most. */
     private static final int CALLS = 512;
+    private static final int MOST_AT_ONCE = 24;
     private static final String SIGNS = "cwlbyw0123456789+-*/%<=>&|!(())((!";
 
     /** A call, how often it comes, and for each argument the bounds of what is asked mostly. */
@@ -29,6 +31,7 @@ public final class RunsTest {
     private final LakeSwimmers real = new LakeSwimmers();
     private final Model model = new Model();
     private final List<String> made = new ArrayList<>();
+    private int calls = 0;
 
     private RunsTest(int run) {
         random = new Random(run);
@@ -46,7 +49,7 @@ public final class RunsTest {
             RunsTest test = new RunsTest(run);
             test.begin(run);
             boolean asDue = true;
-            while (test.made.size() < CALLS && asDue) {
+            while (test.calls <= CALLS - MOST_AT_ONCE && asDue) {
                 asDue = test.some(bag.get(test.random.nextInt(bag.size())));
             }
             if (!asDue) {
@@ -158,6 +161,7 @@ public final class RunsTest {
                 && call("where", swimmer, i);
             // The Model was asked once more than the real one.
             real.where(swimmer, i);
+            calls++;
         }
         return asDue && call("judge", 0, swimmer);
     }
@@ -169,6 +173,7 @@ public final class RunsTest {
         int place = model.meet(one, other, 1);
         real.meet(one, other, 0);
         real.meet(one, other, 1);
+        calls += 2;
         return call("diary", one, other, minute, place, random.nextInt(2))
             && call("training", one, other, Math.max(0, place));
     }
@@ -186,6 +191,7 @@ public final class RunsTest {
             return false;
         }
         made.add(told);
+        calls++;
         Due.due("call " + made.size() + ": " + told, got, want);
         return got == want;
     }

@@ -6,7 +6,6 @@ public final class SwimTest {
         meetInLanes();
         year();
         catchOfYear();
-        lastYear();
         loose();
         Due.finish("SwimTest");
     }
@@ -139,32 +138,6 @@ public final class SwimTest {
         Due.planAll(x, 0, 1);
         x.year(0, 1);
         Due.due("WIND too", x.count(3), 34);
-    }
-
-    private static void lastYear() {
-        LakeSwimmers x = two();
-        x.sheet(0, 8, 40);
-        x.put(0, 1, 1);
-        for (int n = 2; n <= 16; n *= 2) {
-            x.move(0, 0, 0, n, n);
-        }
-        x.move(0, 0, 0, 32, 8);
-        for (int i = 0; i < 499; i++) {
-            Due.due("20 years", x.years(0), 20);
-        }
-        Due.due("up to YEAR 9999", x.years(0), 19);
-        x.seed(7);
-        Due.due("year at 9999", x.year(0, 1), Due.STATE);
-        Due.due("loose at 9999", x.loose(0, 1), Due.STATE);
-        // What stands from here on is beyond the 512 calls that the document promises.
-        Due.due("z stays", x.count(10), 7);
-        Due.due("none that wait", x.check(0, 1), 0);
-        x.tell(600);
-        Due.due("no YEAR comes", x.check(0, 1), 1);
-        Due.due("BEYOND ahead of STATE", x.year(0, 0), Due.BEYOND);
-        Due.due("YEAR", x.count(0), 9999);
-        Due.due("MET", x.ofSwimmer(0, 4), 9999);
-        Due.due("FISH", x.count(3), 9999 * 50);
     }
 
     private static void loose() {
