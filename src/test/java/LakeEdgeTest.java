@@ -16,6 +16,7 @@ public final class LakeEdgeTest {
         paces();
         lanesOfMinutes();
         shores();
+        shoresByBoth();
         sightOfSwim();
         passed();
         firstAndLastMinute();
@@ -264,6 +265,26 @@ public final class LakeEdgeTest {
         x.plan(0, 1, 1);
         Due.due("at the shore for 10", x.where(0, 10), 0);
         Due.due("and on from there", x.where(0, 20), 290);
+    }
+
+    /** "yards more by both", "less by PACE, more by FLOW": held when both have been added, not between them */
+    private static void shoresByBoth() {
+        int[] flows = {-9, -1, 0, 1, 9};
+        for (int flow : flows) {
+            LakeSwimmers x = two(50, 50);
+            x.current(0, flow);
+            for (int n = 0; n <= 60; n++) {
+                Due.due("where(0, " + n + ") by " + flow, x.where(0, n), Math.min(1200, (30 + flow) * n));
+                Due.due("where(1, " + n + ") by " + flow, x.where(1, n), Math.max(0, 1200 - (30 - flow) * n));
+            }
+        }
+        LakeSwimmers y = two(50, 50);
+        y.current(0, -9);
+        Due.due("1197", y.where(0, 57), 1197);
+        Due.due("1197 and 30 less 9", y.where(0, 58), 1200);
+        y.current(0, 9);
+        Due.due("3", y.where(1, 57), 3);
+        Due.due("3 less 30 and 9", y.where(1, 58), 0);
     }
 
     // ---- SWIM
